@@ -33,7 +33,7 @@ public final class RadixBig {
     // Work space only: nothing is kept in these from one call to the next.
     private final int[] left = new int[WIDE];
     private final int[] right = new int[WIDE];
-    private final int[] quotient = new int[WIDE];
+    private final int[] quotient = new int[PLACES];
     private final int[] rest = new int[WIDE];
     private final int[] product = new int[PRODUCT_PLACES];
 
@@ -427,7 +427,6 @@ public final class RadixBig {
 
     // Divides left by right, which must not be 0, into quotient and rest.
     private void formQuotient() {
-        clear(quotient);
         clear(rest);
         for (int i = PLACES - 1; i >= 0; i--) {
             pushDigit(rest, left[i]);
