@@ -6,7 +6,7 @@ public final class RadixBig {
     private static final int PLACES = 24;
     private static final int CELLS = REGISTERS * PLACES;
 
-    // The carry of a sum and the running remainder of a division need one place more than a register.
+    // The carry of a sum and the digit that a feed pushes out need one place more than a register.
     private static final int WIDE = PLACES + 1;
     private static final int PRODUCT_PLACES = 2 * PLACES;
 
