@@ -1,3 +1,4 @@
+import java.lang.reflect.Array;
 import java.lang.reflect.Constructor;
 import java.lang.reflect.Field;
 import java.lang.reflect.Method;
@@ -5,7 +6,7 @@ import java.lang.reflect.Modifier;
 import java.util.Set;
 import java.util.TreeSet;
 
-/** The public face of the document, and what reflection can see of LANGUAGE.md's rules 1, 2, 5 and 10. */
+/** The public face of the document, and what reflection can see of LANGUAGE.md's rules 1, 2, 4, 5 and 10. */
 public final class FaceTest {
     private static final Set<String> FACE = Set.of(
             "radix()", "set(int,int,int)", "shift(int,int)", "feed(int,int)", "copy(int,int)",
@@ -17,11 +18,12 @@ public final class FaceTest {
             void.class, int.class, long.class, short.class, byte.class, char.class, boolean.class,
             int[].class, long[].class, short[].class, byte[].class, char[].class, boolean[].class);
 
-    public static void main(String[] args) {
+    public static void main(String[] args) throws IllegalAccessException {
         theClass();
         theConstructor();
         theMethods();
         theFields();
+        theArrays();
         Scene.end();
     }
 
@@ -89,5 +91,15 @@ public final class FaceTest {
             }
         }
         Scene.check(held + " fields are at most forty", held <= 40);
+    }
+
+    private static void theArrays() throws IllegalAccessException {
+        RadixBig big = new RadixBig(10);
+        for (Field field : RadixBig.class.getDeclaredFields()) {
+            if (field.getType().isArray()) {
+                field.setAccessible(true);
+                Scene.check(field + " has a place or more", Array.getLength(field.get(big)) >= 1);
+            }
+        }
     }
 }
